@@ -77,6 +77,11 @@ public final class PromisesTest {
         townIs("starch 7", -18);
         townIs("starch 7 ", -19);
         townIs("starch 7;", -18);
+        townIs("st7 k=6", -12);
+        townIs("starch7 k=6", -16);
+        townIs("so7 k=6", -12);
+        townIs("b7", -11);
+        townIs("burst7", -15);
         townIs("soften 7 k", -20);
         townIs("soften 7 k=", -21);
         townIs("soften 7 k=6", 0);
@@ -99,6 +104,7 @@ public final class PromisesTest {
         townIs("soften 7 |k=6", -19);
         openOnes();
         manyTowns();
+        newestTown();
     }
 
     private static void openOnes() {
@@ -137,6 +143,24 @@ public final class PromisesTest {
         due("3: the one that held holds", y.told(1), 30);
         due("3: no burst in the newest", townOf(y, "starch 1 p=0"), 1);
         due("3: 90 without", y.told(1), 90);
+    }
+
+    private static void newestTown() {
+        StarchedCollars x = inTown("starch 1 p=0;starch 2 p=0&!p=1;starch 4 p=0;burst 33");
+        x.man(0, 0, 0, 0);
+        due("3: rise", x.of(0, 7), 10);
+        due("3: a fault behind clauses", townOf(x, "starch 50 p=0;starch 20 p"), -35);
+        due("3: rise as before", x.of(0, 7), 10);
+        due("3: another town", townOf(x, "soften 1 p=1|p=0"), 1);
+        due("3: its rise alone", x.of(0, 7), 2);
+        due("3: its burst", x.told(1), 90);
+        due("3: no clauses but burst", townOf(x, "burst 7"), 2);
+        due("3: 3 alone", x.of(0, 7), 3);
+        due("3: below 0 never holds", townOf(x, "starch 9 p<0;starch 20 p=0&p<0|p<0"), 3);
+        due("3: 3 alone, too", x.of(0, 7), 3);
+        due("3: all of 99 signs", townOf(x, "starch 9 p=0;starch 9 p=0;starch 9 p=0;starch 9 p=0;starch 9 p=0;"
+            + "starch 9 p=0;soften 9 p=0&p=0"), 4);
+        due("3: their rise", x.of(0, 7), 48);
     }
 
     private static void promise4() {
@@ -192,6 +216,7 @@ public final class PromisesTest {
         x.pass(10);
         due("5: week 11", x.of(1, 7), 23);
         tests();
+        heightsByTen();
         sees();
     }
 
@@ -216,6 +241,10 @@ public final class PromisesTest {
         due("5: ! of brackets", riseIn("starch 40 !(p=1&p=0)"), 21);
         due("5: ! of its F alone", riseIn("starch 40 !p=0&p=0"), 1);
         due("5: both", riseIn("starch 40 p=1&k=2&v=7"), 21);
+        due("5: a bracket behind &", riseIn("starch 40 p=1&(k=2)"), 21);
+        due("5: a bracket behind |", riseIn("starch 40 p=1|(k=2&(p=0))"), 21);
+        due("5: & in a bracket behind |", riseIn("starch 40 p=0|(k=2&(p=1|p=0)&v=7)"), 21);
+        due("5: brackets by brackets", riseIn("starch 40 (p=1)&(k=3|v=7)&!(c=3&(h=5|w=6))"), 21);
         due("5: many", riseIn("starch 40 p=1;soften 20 k=2;starch 30 p=0;soften 1 v=7"), 11);
         due("5: cut toward 0", riseIn("soften 4 p=1"), 0);
         due("5: cut toward 0, below", riseIn("soften 6 p=1"), -1);
@@ -231,6 +260,17 @@ public final class PromisesTest {
         x.set(1, 2, 49);
         townOf(x, town);
         return x.of(1, 7);
+    }
+
+    private static void heightsByTen() {
+        StarchedCollars x = inTown("burst 99;starch 5 h=9;starch 7 h=8;starch 50 h=5");
+        x.man(0, 0, 0, 0);
+        int[] heights = {0, 49, 50, 59, 60, 79, 80, 89, 90, 99};
+        int[] rises = {3, 3, 53, 53, 3, 3, 10, 10, 8, 8};
+        for (int i = 0; i < heights.length; i++) {
+            x.set(0, 2, heights[i]);
+            due("5: rise at " + heights[i], x.of(0, 7), rises[i]);
+        }
     }
 
     private static void sees() {
@@ -252,6 +292,14 @@ public final class PromisesTest {
         due("5: bench of several, the first", x.of(0, 9), 4);
         x.set(1, 2, 99);
         due("5: reach 0 sees its own place", x.of(1, 8), 4);
+        x.set(1, 0, 5);
+        x.set(0, 0, 1);
+        due("5: bench at 9", x.of(1, 9), 9);
+        x.set(4, 0, 1);
+        due("5: bench at 1", x.of(1, 9), 1);
+        x.set(0, 0, 0);
+        x.set(1, 0, 3);
+        x.set(4, 0, 9);
         due("5: bench of reach 0", x.of(1, 9), 9);
         x.away(5, true);
         due("5: bench, without the one away", x.of(1, 9), 0);
@@ -370,6 +418,9 @@ public final class PromisesTest {
         due("11: away", x.told(3), 7);
         x.stud(2, true);
         due("11: gone, though away", x.told(2), 4);
+        x.away(0, false);
+        x.set(0, 2, 89);
+        due("11: gone now, not in a week", x.told(2), 4);
         x.pass(7);
         due("11: week", x.told(0), 7);
         due("11: what -1", x.told(-1), NONE);
@@ -437,6 +488,32 @@ public final class PromisesTest {
         due("12: without that article", z.of(0, 3), 5);
     }
 
+    /** In each of the ten weeks from week 3 on another rise, so that none can stand for another. */
+    private static void weekByWeek() {
+        StarchedCollars x = inTown("starch 1 w=3;starch 2 w=4;starch 4 w=5;starch 8 w=6;soften 3 w<3|w>6");
+        x.man(0, 0, 0, 0);
+        x.man(6, 0, 0, 0);
+        x.row(1, 3, 5);
+        x.row(1, 0, 9);
+        x.pass(3);
+        int[] first = {0, 4, 9, 16, 27, 27, 27, 27, 27, 27, 27, 31};
+        int[] second = {0, 5, 15, 18, 25, 26, 31, 27, 23, 24, 29, 29};
+        for (int n = 0; n < first.length; n++) {
+            due("13: of the first behind " + n, x.on(n, 10), first[n]);
+            due("13: of the second behind " + n, x.on(n, 11), second[n]);
+        }
+        x.see(0, 2, 9);
+        x.see(0, 3, 16);
+        due("19: the weeks in their order", x.highs(0, 1), 0);
+        due("19: one alone", x.highs(0, 0), 1);
+        townOf(x, "burst 20;starch 1 w=3;starch 2 w=4;starch 4 w=5;starch 8 w=6;soften 3 w<3|w>6");
+        due("14: the weeks in their order", x.when(0), 4);
+        x.plan(0, 0);
+        x.plan(0, 0);
+        x.plan(0, 0);
+        due("24: the weeks in their order", x.done(1), 16 + 18);
+    }
+
     private static void promise13() {
         StarchedCollars x = inTown("burst 10");
         x.man(0, 0, 0, 255);
@@ -457,6 +534,7 @@ public final class PromisesTest {
         due("13: what -10", x.on(0, -10), NONE);
         due("13: what 30", x.on(61, 30), NONE);
         due("13: n 61", x.on(61, 0), BAD);
+        weekByWeek();
         due("13: n -1", x.on(-1, 11), BAD);
     }
 
@@ -509,7 +587,30 @@ public final class PromisesTest {
         x.away(2, true);
         due("15: two must be together", x.walk(-1), 7);
         due("15: k -2", x.walk(-2), NONE);
+        walkOfSix();
         due("15: k 4", x.walk(4), NONE);
+    }
+
+    private static void walkOfSix() {
+        StarchedCollars x = new StarchedCollars();
+        int[] creeds = {255, 15, 1, 254, 7, 0};
+        for (int creed : creeds) {
+            x.man(0, 0, 0, creed);
+        }
+        int[] with = {3, 4, 5, 0, 1, 2};
+        for (int k = 0; k < 6; k++) {
+            due("15: six", x.walk(k), with[k]);
+        }
+        due("15: six, how much", x.walk(-1), 3);
+        x.away(0, true);
+        int[] then = {NEVER, 4, 5, NEVER, 1, 2};
+        for (int k = 0; k < 6; k++) {
+            due("15: five", x.walk(k), then[k]);
+        }
+        x.away(5, true);
+        x.away(2, true);
+        x.away(4, true);
+        due("15: the last two", x.walk(1) * 10 + x.walk(3), 31);
     }
 
     private static void promise16() {
@@ -552,6 +653,34 @@ public final class PromisesTest {
         x.away(4, true);
         due("17: one away is safe", x.wash(2), 0);
         due("17: nothing is changed", x.of(4, 4), 80);
+        moreWashes();
+    }
+
+    private static void moreWashes() {
+        StarchedCollars x = new StarchedCollars();
+        for (int i = 0; i < 6; i++) {
+            x.man(0, 0, 0, 0);
+            x.set(i, 2, 60);
+        }
+        due("17: six", x.wash(6), 63);
+        due("17: five", x.wash(5), 31);
+        due("17: one", x.wash(1), 1);
+        StarchedCollars y = inTown("burst 36");
+        y.man(0, 0, 0, 0);
+        y.set(0, 2, 1);
+        due("17: behind twelve weeks, washed or not", y.wash(6), 0);
+        StarchedCollars z = inTown("burst 37");
+        z.man(0, 0, 0, 0);
+        z.set(0, 2, 1);
+        due("17: washed, not behind twelve weeks", z.wash(6), 1);
+        StarchedCollars u = inTown("burst 65;starch 65 h=0;soften 2 h>0");
+        u.man(4, 0, 0, 0);
+        u.man(4, 0, 0, 0);
+        u.man(0, 0, 0, 0);
+        u.set(0, 2, 10);
+        u.set(1, 2, 61);
+        u.set(2, 2, 60);
+        due("17: one goes either way, two would go if washed", u.wash(6), 0);
     }
 
     private static void promise18() {
@@ -848,7 +977,7 @@ public final class PromisesTest {
         x.man(6, 1, 2, 3);
         x.row(0, 2, 7);
         x.pass(2);
-        x.see(0, 3, 4);
+        x.see(0, 0, 4);
         x.plan(1, 0);
         x.book(0, 9);
         x.act(0, 0, 1);
@@ -865,8 +994,15 @@ public final class PromisesTest {
             x.town();
             townOf(x, "burst 60");
             x.see(-1, 0, 0);
+            x.see(0, 0, 99);
+            x.see(0, 2, 99);
             x.plan(-1, 0);
+            x.plan(2, 0);
+            x.plan(0, 0);
             x.book(-1, 0);
+            x.book(0, 3);
+            x.book(0, 3);
+            feedAll(x, "burst");
             x.act(0, 2, 1);
             due("31: one", x.undo(), 1);
             asTaken(x);
@@ -890,11 +1026,33 @@ public final class PromisesTest {
         due("31: book", x.looked(), 0);
         due("31: the trace is of the latest act", x.trace(0), 31);
         due("31: tape", x.feed('r'), 4);
-        due("31: seen", x.highs(0, 0), 0);
+        due("31: tape that is a fault", x.town(), -14);
+        due("31: seen", x.highs(0, 1), 4);
         due("31: plan", x.done(1), 0);
         x.set(0, 2, 8);
         x.plan(-1, 0);
         due("31: no plan", x.done(1), 8);
+    }
+
+    private static void madeAnew() {
+        StarchedCollars x = new StarchedCollars();
+        x.image();
+        x.man(6, 9, 9, 255);
+        for (int k = 0; k < 4; k++) {
+            x.row(0, k, 9);
+        }
+        x.set(0, 2, 50);
+        x.stud(0, true);
+        x.away(0, true);
+        x.undo();
+        due("4: made anew", x.man(6, 1, 2, 3), 0);
+        int[] is = {6, 1, 2, 3, 0, 0, 0, 3 + 2 - 4, 0, 0};
+        for (int what = 0; what < is.length; what++) {
+            due("4: of " + what, x.of(0, what), is[what]);
+        }
+        for (int k = 0; k < 4; k++) {
+            due("4: row", x.row(0, k, 1), 0);
+        }
     }
 
     private static void promise32() {
@@ -952,6 +1110,7 @@ public final class PromisesTest {
         promise28();
         promise29();
         promise30And31();
+        madeAnew();
         promise32();
         CHECK.end();
     }
