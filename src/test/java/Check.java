@@ -1,6 +1,7 @@
 /** Counts the answers that are not as due, and tells them. */
 final class Check {
     private final String name;
+    private String sentence = "";
     private int looked;
     private int wrong;
 
@@ -8,11 +9,16 @@ final class Check {
         this.name = name;
     }
 
+    /** What the document says of all that is looked at from here on. */
+    void says(String itsWords) {
+        sentence = " [" + itsWords + "]";
+    }
+
     void due(String call, long got, long want) {
         looked++;
         if (got != want) {
             wrong++;
-            System.out.println(name + ": " + call + " answered " + got + ", due is " + want);
+            System.out.println(name + sentence + ": " + call + " answered " + got + ", due is " + want);
         }
     }
 
