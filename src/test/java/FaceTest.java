@@ -58,9 +58,21 @@ public final class FaceTest {
             boolean isPublic = Modifier.isPublic(m.getModifiers());
             CHECK.isTrue(m + " has a name of its own", isPublic || !publicNames.contains(m.getName()));
         }
+        CHECK.isTrue("few classes", c.getDeclaredClasses().length + 1 <= 12);
+        parameters(c);
+        for (Class<?> inside : c.getDeclaredClasses()) {
+            CHECK.due("classes inside " + inside, inside.getDeclaredClasses().length, 0);
+            parameters(inside);
+        }
         Constructor<?>[] made = c.getDeclaredConstructors();
         boolean isOne = made.length == 1 && made[0].getParameterCount() == 0;
         CHECK.isTrue("one public constructor", isOne && Modifier.isPublic(made[0].getModifiers()));
+    }
+
+    private static void parameters(Class<?> c) {
+        for (Method m : c.getDeclaredMethods()) {
+            CHECK.isTrue(m + " has seven parameters at most", m.getParameterCount() <= 7);
+        }
     }
 
     private static void constants() {
